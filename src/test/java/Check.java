@@ -1,18 +1,51 @@
 import java.util.function.Consumer;
 import java.util.function.Supplier;
+import java.util.function.ToLongFunction;
 
 /** Counts answers that are not as due, for all tests of the project. */
 final class Check {
     static final int ROOTS = 24;
     /** Tests that take pictures hold their objects below this root; the picture uses the others. */
     static final int SPARE = 16;
+    /** No test makes a property of this key where a put is refused. */
+    static final long NEVER = -63;
+
+    private static final int[] NO_ROOTS = {-1, -2, 24, Integer.MIN_VALUE, Integer.MAX_VALUE};
+    /** The first ones beyond, and some whose lower half alone would be a key. */
+    private static final long[] NO_KEYS = {
+        -65, 4294967295L, 1L << 32, -1L << 32, (-1L << 32) - 1, Long.MIN_VALUE, Long.MAX_VALUE,
+    };
+    private static final long[] EDGE_KEYS = {-64, -1, 0, 4294967294L};
+
+    interface RootCall {
+        void on(PropertyStore x, int r);
+    }
+
+    interface KeyCall {
+        void on(PropertyStore x, int r, long key);
+    }
 
     private final String name;
     private int checks;
     private int wrong;
+    private String sentence = "";
+    private int checksAhead;
 
     Check(String name) {
         this.name = name;
+    }
+
+    /** Tells the document's sentence that the checks from here on are for. */
+    void sentence(String where, String text) {
+        endSentence();
+        sentence = where + ", \"" + text + "\": ";
+    }
+
+    private void endSentence() {
+        if (!sentence.isEmpty() && checks == checksAhead) {
+            tell("no check");
+        }
+        checksAhead = checks;
     }
 
     void due(String call, long got, long want) {
@@ -33,6 +66,26 @@ final class Check {
         }
     }
 
+    void dueLength(PropertyStore x, int r, double d, int attributes) {
+        due("own(" + r + ", -1)", x.own(r, -1), attributes);
+        due("kind() of the length", x.kind(), 4);
+        due("bits() of the length", x.bits(), number(d));
+    }
+
+    void dueKeys(PropertyStore x, int r, long... due) {
+        int keys = x.keys(r);
+        due("keys(" + r + ")", keys, due.length);
+        for (int k = 0; k < due.length && k < keys; k++) {
+            due("key(" + r + ", " + k + ")", x.key(r, k), due[k]);
+        }
+    }
+
+    void dueNumber(PropertyStore x, int r, long key, double d) {
+        due("get(" + r + ", " + key + ")", x.get(r, key), 0);
+        due("kind() of get(" + r + ", " + key + ")", x.kind(), 4);
+        due("bits() of get(" + r + ", " + key + ")", x.bits(), number(d));
+    }
+
     /** A call must throw just this exception, and leave a store as it was. */
     void refuses(String call, Class<? extends RuntimeException> due, Supplier<PropertyStore> maker,
             Consumer<PropertyStore> wrongCall) {
@@ -45,8 +98,48 @@ final class Check {
         refuses(call, IllegalArgumentException.class, maker, wrongCall);
     }
 
+    /** A call must answer so, and leave a store as it was. */
+    void leaves(String call, long due, Supplier<PropertyStore> maker, ToLongFunction<PropertyStore> quietCall) {
+        PropertyStore touched = maker.get();
+        due(call, quietCall.applyAsLong(touched), due);
+        due("a picture behind " + call, picture(touched), picture(maker.get()));
+    }
+
+    /** A put must answer so, and leave a store as it was, but for the result, which is undefined. */
+    void leavesPut(String call, int due, Supplier<PropertyStore> maker, int r, long key) {
+        PropertyStore touched = maker.get();
+        PropertyStore left = maker.get();
+        left.get(r, NEVER);
+        due(call, touched.put(r, key), due);
+        due("a picture behind " + call, picture(touched), picture(left));
+    }
+
+    void needsRoot(String call, RootCall on) {
+        for (int r : NO_ROOTS) {
+            refuses(call + " of root " + r, Scene::rich, x -> on.on(x, r));
+        }
+    }
+
+    void needsObject(String call, RootCall on) {
+        needsRoot(call, on);
+        refuses(call + " of a root that holds nothing", Scene::rich, x -> on.on(x, Scene.EMPTY));
+    }
+
+    void needsKey(String call, KeyCall on) {
+        needsObject(call, (x, r) -> on.on(x, r, -2));
+        for (long key : NO_KEYS) {
+            refuses(call + " of key " + key, Scene::rich, x -> on.on(x, 1, key));
+            refuses(call + " of an array's key " + key, Scene::rich, x -> on.on(x, 0, key));
+        }
+        for (long key : EDGE_KEYS) {
+            due(call + " of key " + key + " throws", thrown(() -> on.on(Scene.rich(), 1, key)), "nothing");
+            due(call + " of an array's key " + key + " throws", thrown(() -> on.on(Scene.rich(), 0, key)), "nothing");
+        }
+    }
+
     /** Ends the test's program with 1 if an answer was not as due. */
     void end() {
+        endSentence();
         System.out.println(name + ": " + checks + " checks, " + wrong + " wrong");
         if (wrong != 0 || checks == 0) {
             System.exit(1);
@@ -75,8 +168,9 @@ final class Check {
         x.get(SPARE, -2);
         text.append(" operand ").append(result(x));
         for (int r = 0; r < SPARE; r++) {
-            text.append("; ").append(r).append(' ').append(whichRoot(x, r));
-            if (whichRoot(x, r).equals("=" + r)) {
+            String which = whichRoot(x, r);
+            text.append("; ").append(r).append(' ').append(which);
+            if (which.equals("=" + r)) {
                 text.append(object(x, r));
             }
         }
@@ -90,7 +184,8 @@ final class Check {
         for (int how = 0; how < 3; how++) {
             text.append(x.locked(r, how) ? " locked" : " open");
         }
-        for (int k = 0; k < x.keys(r); k++) {
+        int keys = x.keys(r);
+        for (int k = 0; k < keys; k++) {
             long key = x.key(r, k);
             text.append(", ").append(key).append(": ").append(x.own(r, key)).append(' ').append(result(x));
             if (x.setter(r, key, SPARE + 2)) {
@@ -127,7 +222,7 @@ final class Check {
     private void tell(String text) {
         wrong++;
         if (wrong <= 20) {
-            System.out.println(name + ": " + text);
+            System.out.println(name + ": " + sentence + text);
         }
     }
 }

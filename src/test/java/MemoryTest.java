@@ -1,7 +1,7 @@
 import java.lang.reflect.Field;
 
 /** Collections, which no answer shows, and stores with all that 512 calls can make, and more. */
-public final class MemoryTest {
+public final class MemoryTest extends Scene {
     private static final Check CHECK = new Check("MemoryTest");
     private static final int LINK = PropertyStore.Memory.FIRST_LINK;
     private static final int LINKS = PropertyStore.Memory.FIRST_WORD - LINK;
@@ -27,6 +27,7 @@ public final class MemoryTest {
     }
 
     private static void collectsBeforeEachNth() {
+        CHECK.sentence("Promise 21", "Collects before each n-th block that is made from now on");
         PropertyStore.Memory memory = new PropertyStore.Memory();
         dueBlocks("no stress", memory, 1, 2, 3, 4, 5);
         memory.collectBeforeEach(1);
@@ -41,6 +42,7 @@ public final class MemoryTest {
     }
 
     private static void keepsWhatIsReached() {
+        CHECK.sentence("Terms", "An object is there as long as a root, the operand or the result leads to it");
         PropertyStore.Memory memory = new PropertyStore.Memory();
         for (int slot = 0; slot < 3; slot++) {
             int head = memory.make();
@@ -71,6 +73,7 @@ public final class MemoryTest {
     }
 
     private static void collectsWhenFull() {
+        CHECK.sentence("Terms", "All memory is the class's own, and is collected whenever it likes");
         PropertyStore.Memory memory = new PropertyStore.Memory();
         int highest = 0;
         for (int n = 0; n < 10000; n++) {
@@ -102,6 +105,7 @@ public final class MemoryTest {
     }
 
     private static void stressReachesTheMemory() throws ReflectiveOperationException {
+        CHECK.sentence("Promise 21", "Collects before each n-th block that is made from now on (0: when it likes).");
         PropertyStore x = new PropertyStore();
         x.object(0, -1, true);
         x.stress(2);
@@ -125,17 +129,8 @@ public final class MemoryTest {
         dueBlocks("what no root leads to is collected", memoryOf(x), 1);
     }
 
-    /** Makes blocks until each free one has been used and written again; the result and the operand stay. */
-    private static void churn(PropertyStore x) {
-        x.object(20, -1, false);
-        for (int n = 0; n < 70; n++) {
-            x.define(20, n % 30, 32, 32, -1, -1);
-            x.delete(20, n % 30);
-        }
-        x.copy(20, -1);
-    }
-
     private static void keepsOperandAndResult() {
+        CHECK.sentence("Terms", "An object that is one of both is there as long as it is.");
         for (int n = 0; n < 4; n++) {
             PropertyStore x = new PropertyStore();
             x.stress(n);
@@ -178,6 +173,7 @@ public final class MemoryTest {
     }
 
     private static void hasRoomForAllCalls() {
+        CHECK.sentence("Terms", "There is always room.");
         for (int n = 0; n < 3; n++) {
             PropertyStore x = new PropertyStore();
             x.stress(n);
@@ -193,6 +189,7 @@ public final class MemoryTest {
     }
 
     private static void hasRoomForProperties() {
+        CHECK.sentence("Terms", "There is always room.");
         for (int n = 0; n < 3; n++) {
             PropertyStore x = new PropertyStore();
             x.object(0, -1, true);
@@ -211,6 +208,7 @@ public final class MemoryTest {
 
     /** Answers are free there, but nothing than the face's exceptions may come. */
     private static void goesOnBehindItsCalls() {
+        CHECK.sentence("What it is", "what later calls answer is free");
         PropertyStore x = new PropertyStore();
         x.object(0, -1, true);
         for (int n = 0; n < 3000; n++) {
