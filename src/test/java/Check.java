@@ -1,6 +1,7 @@
 import java.util.function.Consumer;
 import java.util.function.Supplier;
 import java.util.function.ToLongFunction;
+import java.util.stream.IntStream;
 
 /** Counts answers that are not as due, for all tests of the project. */
 final class Check {
@@ -68,8 +69,7 @@ final class Check {
 
     void dueLength(PropertyStore x, int r, double d, int attributes) {
         due("own(" + r + ", -1)", x.own(r, -1), attributes);
-        due("kind() of the length", x.kind(), 4);
-        due("bits() of the length", x.bits(), number(d));
+        dueNumber("own(" + r + ", -1)", x, d);
     }
 
     void dueKeys(PropertyStore x, int r, long... due) {
@@ -82,8 +82,15 @@ final class Check {
 
     void dueNumber(PropertyStore x, int r, long key, double d) {
         due("get(" + r + ", " + key + ")", x.get(r, key), 0);
-        due("kind() of get(" + r + ", " + key + ")", x.kind(), 4);
-        due("bits() of get(" + r + ", " + key + ")", x.bits(), number(d));
+        dueNumber("get(" + r + ", " + key + ")", x, d);
+    }
+
+    private void dueNumber(String call, PropertyStore x, double d) {
+        int kind = x.kind();
+        due("kind() behind " + call, kind, 4);
+        if (kind == 4) {
+            due("bits() behind " + call, x.bits(), number(d));
+        }
     }
 
     /** A call must throw just this exception, and leave a store as it was. */
@@ -161,57 +168,63 @@ final class Check {
 
     /** All that can be seen of a store by calls; it changes the store. */
     static String picture(PropertyStore x) {
+        int[] held = heldRoots(x);
         StringBuilder text = new StringBuilder();
-        text.append("result ").append(result(x));
+        text.append("result ").append(result(x, held));
         x.object(SPARE, -1, false);
         x.put(SPARE, -2);
         x.get(SPARE, -2);
-        text.append(" operand ").append(result(x));
-        for (int r = 0; r < SPARE; r++) {
-            String which = whichRoot(x, r);
+        text.append(" operand ").append(result(x, held));
+        for (int r : held) {
+            String which = whichRoot(x, r, held);
             text.append("; ").append(r).append(' ').append(which);
             if (which.equals("=" + r)) {
-                text.append(object(x, r));
+                text.append(object(x, r, held));
             }
         }
         return text.toString();
     }
 
-    private static String object(PropertyStore x, int r) {
+    private static int[] heldRoots(PropertyStore x) {
+        return IntStream.range(0, SPARE).filter(r -> !x.same(r, ROOTS - 1)).toArray();
+    }
+
+    private static String object(PropertyStore x, int r, int[] held) {
         StringBuilder text = new StringBuilder();
         x.prototype(r, SPARE + 1);
-        text.append(" prototype ").append(whichRoot(x, SPARE + 1));
+        text.append(" prototype ").append(whichRoot(x, SPARE + 1, held));
         for (int how = 0; how < 3; how++) {
             text.append(x.locked(r, how) ? " locked" : " open");
         }
         int keys = x.keys(r);
         for (int k = 0; k < keys; k++) {
             long key = x.key(r, k);
-            text.append(", ").append(key).append(": ").append(x.own(r, key)).append(' ').append(result(x));
+            text.append(", ").append(key).append(": ").append(x.own(r, key)).append(' ').append(result(x, held));
             if (x.setter(r, key, SPARE + 2)) {
-                text.append(" setter ").append(whichRoot(x, SPARE + 2));
+                text.append(" setter ").append(whichRoot(x, SPARE + 2, held));
             }
         }
         return text.toString();
     }
 
-    private static String result(PropertyStore x) {
-        if (x.kind() == 4) {
+    private static String result(PropertyStore x, int[] held) {
+        int kind = x.kind();
+        if (kind == 4) {
             return "4 " + x.bits();
         }
-        if (x.kind() == 5) {
+        if (kind == 5) {
             x.hold(SPARE + 3);
-            return "5 " + whichRoot(x, SPARE + 3);
+            return "5 " + whichRoot(x, SPARE + 3, held);
         }
-        return "" + x.kind();
+        return "" + kind;
     }
 
     /** The first root that holds what root r holds. */
-    private static String whichRoot(PropertyStore x, int r) {
+    private static String whichRoot(PropertyStore x, int r, int[] held) {
         if (x.same(r, ROOTS - 1)) {
             return "nothing";
         }
-        for (int s = 0; s < SPARE; s++) {
+        for (int s : held) {
             if (x.same(r, s)) {
                 return "=" + s;
             }

@@ -11,6 +11,7 @@ public final class DefineTest extends Scene {
         newOne();
         newOneNotTold();
         asItIs();
+        undefinedAsItIs();
         fixedConfigurable();
         fixedEnumerable();
         fixedAccessorAsData();
@@ -143,6 +144,33 @@ public final class DefineTest extends Scene {
         }
         Supplier<PropertyStore> none = () -> withProperty(GETTER, 0, -1, -1);
         dueAsItIs("no getter and no setter", none, GETTER | SETTER, 0, -1, -1);
+    }
+
+    /** Undefined is one value, whether it was told, not told, or left when an accessor became data. */
+    private static void undefinedAsItIs() {
+        CHECK.sentence(DEFINE, "nothing is done when all that is told is as it is there (values that are the same)");
+        Supplier<PropertyStore> notTold = () -> {
+            PropertyStore x = withProperty(0, 0, -1, -1);
+            x.operand(0, 5);
+            return x;
+        };
+        dueAsItIs("undefined, where no value was told", notTold, VALUE | WEC, 0, -1, -1);
+        Supplier<PropertyStore> turnedOver = () -> {
+            PropertyStore x = withProperty(GETTER | SETTER | C, C, 1, 2);
+            define(x, W | C, 0, -1, -1);
+            x.operand(0, 5);
+            return x;
+        };
+        dueAsItIs("undefined, where an accessor was", turnedOver, VALUE | WEC, 0, -1, -1);
+        Supplier<PropertyStore> putOver = () -> {
+            PropertyStore x = withProperty(VALUE | WEC, WEC, -1, -1);
+            x.operand(0, 5);
+            x.put(0, -2);
+            x.lock(0, 2);
+            x.operand(0, 6);
+            return x;
+        };
+        dueAsItIs("undefined, where a number was", putOver, VALUE | WEC, E, -1, -1);
     }
 
     private static void fixedConfigurable() {

@@ -51,6 +51,7 @@ public final class TermsTest extends Scene {
         delete();
         orderOfKeys();
         collectsUnseen();
+        collectsUnseenWhenTakenBack();
         CHECK.end();
     }
 
@@ -831,11 +832,35 @@ public final class TermsTest extends Scene {
         }
     }
 
+    /** What is made behind the last collection that was told fills the memory, and more. */
+    private static void collectsUnseenWhenTakenBack() {
+        CHECK.sentence("Terms", "or before each n-th block that is made when that is told; no answer changes by it.");
+        for (int n = 1; n < 4; n++) {
+            PropertyStore x = new PropertyStore();
+            x.object(0, -1, true);
+            x.object(1, -1, true);
+            x.copy(1, -1);
+            x.stress(n);
+            for (int made = 0; made < 10; made++) {
+                x.object(1, -1, made % 2 == 0);
+            }
+            x.stress(0);
+            for (int index = 0; index < 90; index++) {
+                putNumber(x, 0, index, index);
+            }
+            for (int index = 0; index < 90; index++) {
+                CHECK.dueNumber(x, 0, index, index);
+            }
+            CHECK.due("keys(0)", x.keys(0), 91);
+            CHECK.due("keys(1)", x.keys(1), 0);
+        }
+    }
+
     /** What is made goes and comes, with a collection before each n-th block. */
     private static PropertyStore grown(int n) {
         PropertyStore x = rich();
         x.stress(n);
-        for (int step = 0; step < 24; step++) {
+        for (int step = 0; step < 12; step++) {
             x.object(5 + step % 3, step % 4, step % 2 == 0);
             x.operand(5, 5 + step % 3);
             x.put(step % 4, -10 - step % 5);
