@@ -13,6 +13,11 @@ public final class BoundsTest extends Scene {
     private static final Check CHECK = new Check("BoundsTest");
 
     public static void main(String[] args) {
+        withEachStress(BoundsTest::all);
+        CHECK.end();
+    }
+
+    static void all() {
         newStore();
         object();
         objectThrows();
@@ -64,14 +69,13 @@ public final class BoundsTest extends Scene {
         prototypeThrows();
         stress();
         stressThrows();
-        CHECK.end();
     }
 
     private static void newStore() {
         CHECK.sentence("Promise 1", "Roots hold nothing.");
         for (int r = 0; r < Check.ROOTS; r++) {
             int root = r;
-            PropertyStore x = new PropertyStore();
+            PropertyStore x = fresh();
             CHECK.due("keys(" + r + ") throws", Check.thrown(() -> x.keys(root)), "IllegalArgumentException");
             CHECK.due("same(" + r + ", 23)", x.same(r, 23), true);
             x.object((r + 1) % Check.ROOTS, -1, true);
@@ -84,7 +88,7 @@ public final class BoundsTest extends Scene {
                 + "as its prototype (p -1: none).");
         for (int r : EDGE_ROOTS) {
             for (int p : EDGE_ROOTS) {
-                PropertyStore x = new PropertyStore();
+                PropertyStore x = fresh();
                 x.object(p, -1, true);
                 x.copy(9, p);
                 x.object(r, p, false);
@@ -115,7 +119,7 @@ public final class BoundsTest extends Scene {
         CHECK.sentence("Promise 3", "Root r holds what root s holds (s -1: nothing).");
         for (int r : EDGE_ROOTS) {
             for (int s : EDGE_ROOTS) {
-                PropertyStore x = new PropertyStore();
+                PropertyStore x = fresh();
                 x.object(s, -1, false);
                 x.put(s, LAST_NAME);
                 x.copy(r, s);
@@ -141,7 +145,7 @@ public final class BoundsTest extends Scene {
 
     private static void same() {
         CHECK.sentence("Promise 4", "Whether both roots hold the same object (or nothing).");
-        PropertyStore x = new PropertyStore();
+        PropertyStore x = fresh();
         CHECK.due("same(0, 23) of nothing", x.same(0, 23), true);
         x.object(0, -1, false);
         CHECK.due("same(0, 23)", x.same(0, 23), false);
@@ -164,7 +168,7 @@ public final class BoundsTest extends Scene {
     private static void operand() {
         CHECK.sentence("Promise 5", "The operand becomes a value: bits are a number's, or the root that holds an object");
         for (int r : EDGE_ROOTS) {
-            PropertyStore x = new PropertyStore();
+            PropertyStore x = fresh();
             x.object(r, -1, false);
             x.object(9, -1, false);
             x.operand(5, r);
@@ -223,7 +227,7 @@ public final class BoundsTest extends Scene {
 
     private static void kind() {
         CHECK.sentence("Promise 6", "The kind of the result.");
-        CHECK.due("kind() of a new store", new PropertyStore().kind(), 0);
+        CHECK.due("kind() of a new store", fresh().kind(), 0);
         for (int kind = 0; kind <= 5; kind++) {
             CHECK.leaves("kind()", kind, withResult(kind), x -> x.kind());
         }
@@ -239,7 +243,7 @@ public final class BoundsTest extends Scene {
         for (int kind : new int[] {0, 1, 2, 3, 5}) {
             CHECK.refuses("bits() of kind " + kind, IllegalStateException.class, withResult(kind), x -> x.bits());
         }
-        CHECK.refuses("bits() of a new store", IllegalStateException.class, PropertyStore::new, x -> x.bits());
+        CHECK.refuses("bits() of a new store", IllegalStateException.class, Scene::fresh, x -> x.bits());
     }
 
     private static void hold() {
@@ -272,7 +276,7 @@ public final class BoundsTest extends Scene {
                 CHECK.refuses("hold of kind " + kind, IllegalStateException.class, withResult(kind), x -> x.hold(r));
             }
         }
-        CHECK.refuses("hold of a new store", IllegalStateException.class, PropertyStore::new, x -> x.hold(0));
+        CHECK.refuses("hold of a new store", IllegalStateException.class, Scene::fresh, x -> x.hold(0));
     }
 
     private static void get() {
@@ -340,8 +344,8 @@ public final class BoundsTest extends Scene {
     }
 
     private static void defineTold() {
-        CHECK.sentence("Promise 11", "told has a bit for each that is told (1 value, which is the operand; 2 writable, "
-                + "4 getter, 8 setter, 16 enumerable, 32 configurable)");
+        CHECK.sentence("Promise 11", "Defines by a description: told has a bit for each that is told (1 value, which is the operand; "
+                + "2 writable, 4 getter, 8 setter, 16 enumerable, 32 configurable)");
         for (int told = 0; told <= 63; told++) {
             if (isBothKinds(told)) {
                 continue;
@@ -374,7 +378,7 @@ public final class BoundsTest extends Scene {
     private static void defineGetterAndSetter() {
         CHECK.sentence("Promise 11", "getter and setter are roots, -1 for none (of no matter when they are not told)");
         for (int r : EDGE_ROOTS) {
-            PropertyStore x = new PropertyStore();
+            PropertyStore x = fresh();
             x.object(9, -1, false);
             x.object(r, -1, true);
             CHECK.due("a getter", x.define(9, -2, GETTER, 0, r, 99), 0);
@@ -442,7 +446,7 @@ public final class BoundsTest extends Scene {
     }
 
     private static void ownOfNothing() {
-        CHECK.sentence("Promise 12", "-1 when there is none (the result is undefined then)");
+        CHECK.sentence("Promise 12", "Of an own property: -1 when there is none (the result is undefined then)");
         PropertyStore x = withResult(5).get();
         CHECK.due("own of nothing", x.own(2, LAST_INDEX), -1);
         CHECK.due("kind()", x.kind(), 0);
@@ -523,7 +527,7 @@ public final class BoundsTest extends Scene {
         CHECK.leaves("what it leads to has", 0, Scene::rich, x -> x.has(0, 4) ? 1 : 0);
         CHECK.leaves("of undefined", 1, () -> withProperty(0, 0, -1, -1), x -> x.has(0, -2) ? 1 : 0);
         CHECK.leaves("of an empty accessor", 1, () -> withProperty(GETTER, 0, -1, -1), x -> x.has(0, -2) ? 1 : 0);
-        PropertyStore y = new PropertyStore();
+        PropertyStore y = fresh();
         y.object(0, -1, false);
         y.put(0, LAST_INDEX);
         for (int n = 0; n < 500; n++) {
@@ -565,7 +569,7 @@ public final class BoundsTest extends Scene {
             return x;
         }, x -> x.keys(4));
         CHECK.leaves("keys of an array", 3, Scene::rich, x -> x.keys(0));
-        PropertyStore y = new PropertyStore();
+        PropertyStore y = fresh();
         y.object(0, -1, false);
         for (int n = 1; n <= 200; n++) {
             y.define(0, n > 136 ? n - 201 : n, C, C, -1, -1);
@@ -587,7 +591,7 @@ public final class BoundsTest extends Scene {
         PropertyStore x = rich();
         CHECK.dueKeys(x, 0, 0, 3, LENGTH);
         CHECK.dueKeys(x, 1, 4, -2, -3);
-        PropertyStore y = new PropertyStore();
+        PropertyStore y = fresh();
         y.object(0, -1, true);
         for (int n = 0; n < 250; n++) {
             y.put(0, LAST_INDEX - n);

@@ -1,3 +1,7 @@
+import java.util.Map;
+import java.util.Set;
+import java.util.TreeMap;
+import java.util.TreeSet;
 import java.util.function.Consumer;
 import java.util.function.Supplier;
 import java.util.function.ToLongFunction;
@@ -18,6 +22,9 @@ final class Check {
     };
     private static final long[] EDGE_KEYS = {-64, -1, 0, 4294967294L};
 
+    /** The sentences that were told, by the document's sections. */
+    static final Map<String, Set<String>> QUOTES = new TreeMap<>();
+
     interface RootCall {
         void on(PropertyStore x, int r);
     }
@@ -36,9 +43,10 @@ final class Check {
         this.name = name;
     }
 
-    /** Tells the document's sentence that the checks from here on are for. */
+    /** Tells the document's sentence, or a part of it, that the checks from here on are for. */
     void sentence(String where, String text) {
         endSentence();
+        QUOTES.computeIfAbsent(where.replaceFirst(",.*", ""), section -> new TreeSet<>()).add(text);
         sentence = where + ", \"" + text + "\": ";
     }
 
@@ -168,6 +176,10 @@ final class Check {
 
     /** All that can be seen of a store by calls; it changes the store. */
     static String picture(PropertyStore x) {
+        return picture(new Real(x));
+    }
+
+    static String picture(Store x) {
         int[] held = heldRoots(x);
         StringBuilder text = new StringBuilder();
         text.append("result ").append(result(x, held));
@@ -185,11 +197,11 @@ final class Check {
         return text.toString();
     }
 
-    private static int[] heldRoots(PropertyStore x) {
+    private static int[] heldRoots(Store x) {
         return IntStream.range(0, SPARE).filter(r -> !x.same(r, ROOTS - 1)).toArray();
     }
 
-    private static String object(PropertyStore x, int r, int[] held) {
+    private static String object(Store x, int r, int[] held) {
         StringBuilder text = new StringBuilder();
         x.prototype(r, SPARE + 1);
         text.append(" prototype ").append(whichRoot(x, SPARE + 1, held));
@@ -207,7 +219,7 @@ final class Check {
         return text.toString();
     }
 
-    private static String result(PropertyStore x, int[] held) {
+    private static String result(Store x, int[] held) {
         int kind = x.kind();
         if (kind == 4) {
             return "4 " + x.bits();
@@ -220,7 +232,7 @@ final class Check {
     }
 
     /** The first root that holds what root r holds. */
-    private static String whichRoot(PropertyStore x, int r, int[] held) {
+    private static String whichRoot(Store x, int r, int[] held) {
         if (x.same(r, ROOTS - 1)) {
             return "nothing";
         }
@@ -235,7 +247,8 @@ final class Check {
     private void tell(String text) {
         wrong++;
         if (wrong <= 20) {
-            System.out.println(name + ": " + sentence + text);
+            String stress = Scene.stress == 0 ? "" : "with stress(" + Scene.stress + "), ";
+            System.out.println(name + ": " + stress + sentence + text);
         }
     }
 }

@@ -7,6 +7,13 @@ public final class DefineTest extends Scene {
     private static final Check CHECK = new Check("DefineTest");
 
     public static void main(String[] args) {
+        withEachStress(DefineTest::all);
+        CHECK.end();
+    }
+
+    static void all() {
+        describes();
+        describesOneKind();
         newOfLocked();
         newOne();
         newOneNotTold();
@@ -39,7 +46,6 @@ public final class DefineTest extends Scene {
         indexNotBelow();
         indexRefused();
         indexBelow();
-        CHECK.end();
     }
 
     /** Defines name 1 of root 0, whose operand is the number 5 as Scene's property has it. */
@@ -70,11 +76,53 @@ public final class DefineTest extends Scene {
     }
 
     private static PropertyStore bare() {
-        PropertyStore x = new PropertyStore();
+        PropertyStore x = fresh();
         x.object(0, -1, false);
         x.object(1, -1, false);
         x.object(2, -1, false);
         return x;
+    }
+
+    /** Each part that is told alone changes itself alone, in a property where all is otherwise. */
+    private static void describes() {
+        CHECK.sentence(DEFINE, "TO DEFINE a property of an object by a DESCRIPTION, which tells some of: value, writable, "
+                + "getter, setter, enumerable, configurable");
+        for (int one : new int[] {W, E, C}) {
+            PropertyStore on = withProperty(VALUE | C, C, -1, -1);
+            CHECK.due("told to be true: " + one, define(on, one, one, -1, -1), 0);
+            CHECK.due("own(0, -2)", on.own(0, -2), C | one);
+            CHECK.due("bits()", on.bits(), Check.number(5));
+            PropertyStore off = withProperty(VALUE | WEC, WEC, -1, -1);
+            CHECK.due("told to be false: " + one, define(off, one, 0, -1, -1), 0);
+            CHECK.due("own(0, -2)", off.own(0, -2), WEC & ~one);
+            CHECK.due("bits()", off.bits(), Check.number(5));
+        }
+        PropertyStore value = withProperty(VALUE | WEC, WEC, -1, -1);
+        CHECK.due("a value", defineNumber(value, 0, -2, VALUE, 0, 6), 0);
+        CHECK.due("own(0, -2)", value.own(0, -2), WEC);
+        CHECK.due("bits()", value.bits(), Check.number(6));
+        PropertyStore accessor = withProperty(GETTER | SETTER | E | C, E | C, 1, 2);
+        CHECK.due("a getter", define(accessor, GETTER, 0, 2, 1), 0);
+        dueOwn(accessor, ACCESSOR | E | C, 2, 2);
+        CHECK.due("a setter", define(accessor, SETTER, 0, 1, 1), 0);
+        dueOwn(accessor, ACCESSOR | E | C, 2, 1);
+        CHECK.leaves("nothing", 0, () -> withProperty(GETTER | SETTER | C, C, 1, 2), x -> define(x, 0, WEC, 2, 1));
+    }
+
+    private static void describesOneKind() {
+        CHECK.sentence(DEFINE, "(never one of the first two with one of the next two)");
+        for (int told = 0; told <= 63; told++) {
+            int bits = told;
+            boolean data = (told & VALUE) != 0 || (told & W) != 0;
+            boolean accessor = (told & GETTER) != 0 || (told & SETTER) != 0;
+            if (data && accessor) {
+                CHECK.refuses("told " + told + " of a new one", DefineTest::bare, x -> define(x, bits, 0, 1, 2));
+                CHECK.refuses("told " + told + " of data", () -> withProperty(VALUE | C, C, -1, -1),
+                        x -> define(x, bits, 0, 1, 2));
+            } else {
+                CHECK.due("told " + told, define(bare(), bits, 0, 1, 2), 0);
+            }
+        }
     }
 
     private static void newOfLocked() {
@@ -127,7 +175,7 @@ public final class DefineTest extends Scene {
     }
 
     private static void asItIs() {
-        CHECK.sentence(DEFINE, "nothing is done when all that is told is as it is there (values that are the same)");
+        CHECK.sentence(DEFINE, "When it has one: nothing is done when all that is told is as it is there (values that are the same)");
         for (int is = 0; is <= WEC; is++) {
             if ((is & ~WEC) != 0) {
                 continue;
@@ -384,7 +432,7 @@ public final class DefineTest extends Scene {
     }
 
     private static void numberOfLength() {
-        CHECK.sentence(ARRAY, "the value's NUMBER is 0 for null and false, 1 for true, a number itself (-0 is taken for 0)");
+        CHECK.sentence(ARRAY, "LENGTH with a value told: the value's NUMBER is 0 for null and false, 1 for true, a number itself (-0 is taken for 0)");
         dueLengthOf(1, Check.number(9), 0);
         dueLengthOf(2, Check.number(9), 0);
         dueLengthOf(3, Check.number(9), 1);

@@ -1,228 +1,201 @@
-import java.lang.reflect.Field;
-
-/** Collections, which no answer shows, and stores with all that 512 calls can make, and more. */
+/** What must be there behind collections, and stores with all that 512 calls can make. */
 public final class MemoryTest extends Scene {
     private static final Check CHECK = new Check("MemoryTest");
-    private static final int LINK = PropertyStore.Memory.FIRST_LINK;
-    private static final int LINKS = PropertyStore.Memory.FIRST_WORD - LINK;
-    private static final int MOST = PropertyStore.Memory.MOST_BLOCKS;
 
-    public static void main(String[] args) throws ReflectiveOperationException {
-        collectsBeforeEachNth();
-        keepsWhatIsReached();
-        collectsWhenFull();
-        stressReachesTheMemory();
-        keepsOperandAndResult();
-        hasRoomForAllCalls();
-        hasRoomForProperties();
-        goesOnBehindItsCalls();
+    public static void main(String[] args) {
+        withEachStress(MemoryTest::all);
         CHECK.end();
     }
 
-    /** Nothing is kept: blocks are made in order, and from the first one again behind a collection. */
-    private static void dueBlocks(String call, PropertyStore.Memory memory, int... due) {
-        for (int n = 0; n < due.length; n++) {
-            CHECK.due(call + ": block made as number " + (n + 1), memory.make(), due[n]);
-        }
-    }
-
-    private static void collectsBeforeEachNth() {
-        CHECK.sentence("Promise 21", "Collects before each n-th block that is made from now on");
-        PropertyStore.Memory memory = new PropertyStore.Memory();
-        dueBlocks("no stress", memory, 1, 2, 3, 4, 5);
-        memory.collectBeforeEach(1);
-        dueBlocks("each", memory, 1, 1, 1);
-        memory.collectBeforeEach(3);
-        dueBlocks("each third", memory, 2, 3, 1, 2, 3, 1);
-        dueBlocks("each third, one more", memory, 2);
-        memory.collectBeforeEach(3);
-        dueBlocks("counted from the last call on", memory, 3, 4, 1);
-        memory.collectBeforeEach(0);
-        dueBlocks("no stress again", memory, 2, 3, 4, 5, 6);
-    }
-
-    private static void keepsWhatIsReached() {
-        CHECK.sentence("Terms", "An object is there as long as a root, the operand or the result leads to it");
-        PropertyStore.Memory memory = new PropertyStore.Memory();
-        for (int slot = 0; slot < 3; slot++) {
-            int head = memory.make();
-            memory.keep(slot, head);
-            for (int link = 0; link < LINKS; link++) {
-                int reached = memory.make();
-                memory.setWord(head, LINK + link, reached);
-                memory.setWord(reached, LINK, head);
-                memory.setWord(reached, PropertyStore.Memory.FIRST_WORD, 1000 + reached);
-            }
-        }
-        int made = 3 + 3 * LINKS;
-        memory.collectBeforeEach(1);
-        dueBlocks("rings that are kept", memory, made + 1, made + 1);
-        for (int slot = 0; slot < 3; slot++) {
-            for (int link = 0; link < LINKS; link++) {
-                int reached = (int) memory.word(memory.kept(slot), LINK + link);
-                CHECK.due("a word of a kept block", memory.word(reached, PropertyStore.Memory.FIRST_WORD), 1000 + reached);
-            }
-        }
-        memory.keep(0, PropertyStore.Memory.NONE);
-        dueBlocks("a ring that is kept no more", memory, 1, 1);
-        memory.collectBeforeEach(0);
-        for (int field = 0; field < 8; field++) {
-            int used = memory.make();
-            CHECK.due("a word of a new block", memory.word(used, field), 0);
-        }
-    }
-
-    private static void collectsWhenFull() {
-        CHECK.sentence("Terms", "All memory is the class's own, and is collected whenever it likes");
-        PropertyStore.Memory memory = new PropertyStore.Memory();
-        int highest = 0;
-        for (int n = 0; n < 10000; n++) {
-            highest = Math.max(highest, memory.make());
-        }
-        CHECK.due("10000 blocks fit where 64 do", highest, 64);
-        int last = PropertyStore.Memory.NONE;
-        for (int n = 0; n < MOST; n++) {
-            int block = memory.make();
-            CHECK.due("block " + n + " is there", block != PropertyStore.Memory.NONE, true);
-            memory.setWord(block, LINK, last);
-            memory.keep(0, block);
-            last = block;
-        }
-        CHECK.due("a block beyond the most", memory.make(), PropertyStore.Memory.NONE);
-        memory.keep(0, PropertyStore.Memory.NONE);
-        CHECK.due("a block behind that", memory.make() != PropertyStore.Memory.NONE, true);
-        CHECK.due("a slot that is not there", memory.kept(-1) + memory.kept(27), 0);
-        memory.keep(-1, 1);
-        memory.keep(27, 1);
-        memory.setWord(MOST + 1, 0, 1);
-        CHECK.due("a word that is not there", memory.word(MOST + 1, 0) + memory.word(0, 7), 0);
-    }
-
-    private static PropertyStore.Memory memoryOf(PropertyStore x) throws ReflectiveOperationException {
-        Field field = PropertyStore.class.getDeclaredField("memory");
-        field.setAccessible(true);
-        return (PropertyStore.Memory) field.get(x);
-    }
-
-    private static void stressReachesTheMemory() throws ReflectiveOperationException {
-        CHECK.sentence("Promise 21", "Collects before each n-th block that is made from now on (0: when it likes).");
-        PropertyStore x = new PropertyStore();
-        x.object(0, -1, true);
-        x.stress(2);
-        dueBlocks("stress(2)", memoryOf(x), 3, 3, 4, 3, 4, 3);
-        x.stress(0);
-        dueBlocks("stress(0)", memoryOf(x), 4, 5, 6, 7, 8);
-        x.stress(3);
-        CHECK.due("stress(-1) throws", Check.thrown(() -> x.stress(-1)), "IllegalArgumentException");
-        dueBlocks("stress(3) behind stress(-1)", memoryOf(x), 9, 10, 3, 4, 5, 3);
-        x.stress(1);
-        x.delete(0, 5);
-        for (int n = 0; n < 100; n++) {
-            x.put(0, 5);
-            x.delete(0, 5);
-        }
-        dueBlocks("deleted properties are collected", memoryOf(x), 3);
-        for (int n = 0; n < 100; n++) {
-            x.object(0, 0, true);
-        }
-        x.copy(0, -1);
-        dueBlocks("what no root leads to is collected", memoryOf(x), 1);
+    private static void all() {
+        keepsOperandAndResult();
+        keepsGetterAndSetter();
+        keepsWhatIsFound();
+        hasRoomForPrototypes();
+        hasRoomForIndices();
+        hasRoomForValues();
+        hasRoomForAllRoots();
+        usesRoomAgain();
+        newObjectsAreEmpty();
     }
 
     private static void keepsOperandAndResult() {
         CHECK.sentence("Terms", "An object that is one of both is there as long as it is.");
-        for (int n = 0; n < 4; n++) {
-            PropertyStore x = new PropertyStore();
-            x.stress(n);
-            x.object(0, -1, false);
-            x.object(1, 0, true);
-            x.operand(5, 1);
-            x.put(0, -2);
-            x.operand(3, 0);
-            x.put(1, -3);
-            x.get(0, -2);
+        PropertyStore x = fresh();
+        x.object(0, -1, false);
+        x.object(1, 0, true);
+        x.operand(5, 1);
+        x.put(0, -2);
+        x.operand(3, 0);
+        x.put(1, -3);
+        x.get(0, -2);
+        x.copy(0, -1);
+        x.copy(1, -1);
+        churn(x);
+        x.hold(2);
+        CHECK.due("own(2, -3) of the result", x.own(2, -3), WEC);
+        x.prototype(2, 3);
+        CHECK.due("own(3, -2) of the result's prototype", x.own(3, -2), WEC);
+        x.operand(5, 2);
+        x.own(3, -60);
+        x.copy(2, -1);
+        x.copy(3, -1);
+        churn(x);
+        x.object(4, -1, false);
+        x.put(4, 0);
+        x.get(4, 0);
+        x.hold(5);
+        CHECK.due("own(5, -3) of the operand", x.own(5, -3), WEC);
+    }
+
+    private static void keepsGetterAndSetter() {
+        CHECK.sentence("Terms", "or an object that is there does (by its prototype, a value, a getter or setter)");
+        PropertyStore x = fresh();
+        x.object(4, -1, false);
+        x.object(6, -1, false);
+        x.object(7, -1, true);
+        x.define(4, -9, GETTER | SETTER, 0, 6, 7);
+        x.copy(6, -1);
+        x.copy(7, -1);
+        churn(x);
+        CHECK.due("get(4, -9)", x.get(4, -9), 1);
+        x.hold(6);
+        CHECK.dueKeys(x, 6);
+        CHECK.due("setter(4, -9, 7)", x.setter(4, -9, 7), true);
+        CHECK.dueKeys(x, 7, LENGTH);
+    }
+
+    /** A getter and a setter that a call gave stay, though their property and its object go. */
+    private static void keepsWhatIsFound() {
+        CHECK.sentence("Terms", "An object that is one of both is there as long as it is.");
+        for (int which = 0; which < 3; which++) {
+            PropertyStore x = fresh();
+            x.object(0, -1, true);
+            x.object(1, -1, true);
+            putNumber(x, 1, 8, 77);
+            x.define(0, 5, GETTER | SETTER, 0, 1, 1);
+            x.operand(0, 0);
+            int answer = which == 0 ? x.get(0, 5) : which == 1 ? x.put(0, 5) : x.own(0, 5);
+            CHECK.due("get, put or own of an accessor", answer, which == 2 ? ACCESSOR : 1);
             x.copy(0, -1);
             x.copy(1, -1);
             churn(x);
-            x.hold(2);
-            CHECK.due("own(2, -3) of the result", x.own(2, -3), 50);
-            x.prototype(2, 3);
-            CHECK.due("own(3, -2) of the result's prototype", x.own(3, -2), 50);
-            x.operand(5, 2);
-            x.own(3, -60);
-            x.copy(2, -1);
-            x.copy(3, -1);
-            churn(x);
-            x.object(4, -1, false);
-            x.put(4, 0);
-            x.get(4, 0);
-            x.hold(5);
-            CHECK.due("own(5, -3) of the operand", x.own(5, -3), 50);
-            x.object(6, -1, false);
-            x.object(7, -1, true);
-            x.define(4, -9, 12, 0, 6, 7);
-            x.copy(6, -1);
-            x.copy(7, -1);
-            churn(x);
-            CHECK.due("get(4, -9)", x.get(4, -9), 1);
-            x.hold(6);
-            CHECK.due("keys of a getter", x.keys(6), 0);
-            CHECK.due("setter(4, -9, 7)", x.setter(4, -9, 7), true);
-            CHECK.due("keys of a setter", x.keys(7), 1);
+            x.hold(1);
+            CHECK.dueNumber(x, 1, 8, 77);
+            CHECK.dueLength(x, 1, 9, W);
         }
     }
 
-    private static void hasRoomForAllCalls() {
+    private static void hasRoomForPrototypes() {
         CHECK.sentence("Terms", "There is always room.");
-        for (int n = 0; n < 3; n++) {
-            PropertyStore x = new PropertyStore();
-            x.stress(n);
-            x.object(0, -1, true);
-            x.operand(3, 0);
-            x.put(0, -2);
-            for (int made = 4; made < 510; made++) {
-                x.object(0, 0, true);
-            }
-            CHECK.due("get through 500 prototypes", x.get(0, -2), 0);
-            CHECK.due("kind()", x.kind(), 3);
-        }
-    }
-
-    private static void hasRoomForProperties() {
-        CHECK.sentence("Terms", "There is always room.");
-        for (int n = 0; n < 3; n++) {
-            PropertyStore x = new PropertyStore();
-            x.object(0, -1, true);
-            x.stress(n);
-            for (int made = 0; made < 500; made++) {
-                x.put(0, 4294967294L - made * 1000L);
-            }
-            CHECK.due("keys(0)", x.keys(0), 501);
-            CHECK.due("key(0, 499)", x.key(0, 499), 4294967294L);
-            CHECK.due("key(0, 0)", x.key(0, 0), 4294967294L - 499000L);
-            x.operand(4, Check.number(4294967294L - 399000L));
-            CHECK.due("put(0, -1)", x.put(0, -1), 0);
-            CHECK.due("keys(0)", x.keys(0), 101);
-        }
-    }
-
-    /** Answers are free there, but nothing than the face's exceptions may come. */
-    private static void goesOnBehindItsCalls() {
-        CHECK.sentence("What it is", "what later calls answer is free");
-        PropertyStore x = new PropertyStore();
+        PropertyStore x = fresh();
         x.object(0, -1, true);
-        for (int n = 0; n < 3000; n++) {
-            int key = n;
-            String thrown = Check.thrown(() -> x.object(0, 0, key % 2 == 0));
-            CHECK.due("object throws " + thrown, thrown.equals("nothing") || thrown.equals("IllegalArgumentException"), true);
-            CHECK.due("put throws", Check.thrown(() -> x.put(0, key)), "nothing");
-            CHECK.due("get throws", Check.thrown(() -> x.get(0, -3)), "nothing");
+        x.operand(3, 0);
+        x.put(0, -2);
+        for (int made = 4; made < 510; made++) {
+            x.object(0, 0, true);
         }
-        CHECK.due("a full store's put is refused", x.put(0, 4000), 2);
-        CHECK.due("a full store's define is refused", x.define(0, 4000, 0, 0, -1, -1), 2);
-        CHECK.due("a full store's object throws", Check.thrown(() -> x.object(1, -1, true)), "IllegalArgumentException");
-        CHECK.due("root 1 holds nothing", x.same(1, 2), true);
-        x.copy(0, -1);
-        CHECK.due("an emptied store's object throws", Check.thrown(() -> x.object(1, -1, true)), "nothing");
+        CHECK.due("get through 500 prototypes", x.get(0, -2), 0);
+        CHECK.due("kind()", x.kind(), 3);
+    }
+
+    private static void hasRoomForIndices() {
+        CHECK.sentence("Terms", "There is always room.");
+        PropertyStore x = fresh();
+        x.object(0, -1, true);
+        for (int made = 0; made < 500; made++) {
+            x.put(0, LAST_INDEX - made * 1000L);
+        }
+        CHECK.due("keys(0)", x.keys(0), 501);
+        CHECK.due("key(0, 499)", x.key(0, 499), LAST_INDEX);
+        CHECK.due("key(0, 0)", x.key(0, 0), LAST_INDEX - 499000L);
+        CHECK.due("put(0, -1)", putNumber(x, 0, LENGTH, LAST_INDEX - 399000L), 0);
+        CHECK.due("keys(0)", x.keys(0), 101);
+    }
+
+    /** A list: each object's value is the one that was made ahead of it. */
+    private static void hasRoomForValues() {
+        CHECK.sentence("Terms", "There is always room.");
+        PropertyStore x = fresh();
+        x.object(0, -1, false);
+        for (int made = 0; made < 80; made++) {
+            x.operand(5, 0);
+            x.object(0, -1, made % 2 == 0);
+            x.put(0, made % 2 == 0 ? 0 : -7);
+        }
+        int found = 0;
+        for (int n = 79; n >= 0; n--) {
+            x.get(0, n % 2 == 0 ? 0 : -7);
+            if (x.kind() == 5) {
+                x.hold(0);
+                found++;
+            }
+        }
+        CHECK.due("the list's length", found, 80);
+        CHECK.dueKeys(x, 0);
+    }
+
+    private static void hasRoomForAllRoots() {
+        CHECK.sentence("Terms", "There is always room.");
+        PropertyStore x = fresh();
+        for (int r = 0; r < Check.ROOTS; r++) {
+            x.object(r, -1, true);
+        }
+        for (int n = 0; n < 9; n++) {
+            for (int r = 0; r < Check.ROOTS; r++) {
+                CHECK.due("put(" + r + ", " + n * r + ")", x.put(r, n * r), 0);
+            }
+        }
+        for (int r = 1; r < Check.ROOTS; r++) {
+            CHECK.dueKeys(x, r, 0, r, 2 * r, 3 * r, 4 * r, 5 * r, 6 * r, 7 * r, 8 * r, LENGTH);
+        }
+    }
+
+    private static void usesRoomAgain() {
+        CHECK.sentence("Terms", "There is always room.");
+        PropertyStore x = fresh();
+        x.object(0, -1, true);
+        putNumber(x, 0, 2, 77);
+        for (int n = 0; n < 160; n++) {
+            x.object(1, 0, true);
+            x.put(1, n);
+            x.object(2, 1, false);
+        }
+        CHECK.dueNumber(x, 2, 2, 77);
+        CHECK.dueNumber(x, 2, LENGTH, 160);
+        CHECK.dueKeys(x, 0, 2, LENGTH);
+        CHECK.dueKeys(x, 1, 159, LENGTH);
+        CHECK.dueKeys(x, 2);
+    }
+
+    /** Nothing is left in an object or a property of what had its room ahead of it. */
+    private static void newObjectsAreEmpty() {
+        CHECK.sentence("Promise 2", "Root r holds a new object (or array) with what root p (r itself, too) held");
+        PropertyStore x = fresh();
+        for (int n = 0; n < 12; n++) {
+            x.object(0, -1, true);
+            x.object(1, 0, true);
+            x.operand(5, 1);
+            x.put(1, 7);
+            x.define(1, -2, GETTER | SETTER | E | C, E | C, 0, 1);
+            x.lock(1, 2);
+            x.object(1, -1, false);
+            x.own(1, 0);
+            x.operand(0, 0);
+            x.object(0, -1, true);
+            x.object(2, -1, false);
+            CHECK.dueKeys(x, 0, LENGTH);
+            CHECK.dueLength(x, 0, 0, W);
+            CHECK.dueKeys(x, 2);
+            CHECK.due("locked(2, 0)", x.locked(2, 0), false);
+            x.prototype(2, 3);
+            CHECK.due("no prototype", x.same(3, EMPTY), true);
+            CHECK.due("define(2, -2) with nothing told", x.define(2, -2, 0, 0, -1, -1), 0);
+            CHECK.due("own(2, -2)", x.own(2, -2), 0);
+            CHECK.due("kind()", x.kind(), 0);
+            CHECK.due("define(2, -3) with no getter", x.define(2, -3, GETTER, 0, -1, -1), 0);
+            CHECK.due("setter(2, -3, 3)", x.setter(2, -3, 3), false);
+            x.copy(2, -1);
+        }
     }
 }

@@ -5,7 +5,7 @@ import java.util.Map;
 import java.util.TreeMap;
 
 /** A second writing of the document, with the Java library and no memory of its own. */
-final class Model {
+final class Model implements Store {
     static final int W = 2;
     static final int E = 16;
     static final int C = 32;
@@ -132,8 +132,12 @@ final class Model {
         return 0 <= r && r <= 23;
     }
 
+    boolean holds(int r) {
+        return isRoot(r) && roots[r] != null;
+    }
+
     private Thing at(int r) {
-        need(isRoot(r) && roots[r] != null);
+        need(holds(r));
         return roots[r];
     }
 
@@ -142,40 +146,40 @@ final class Model {
         return at(r);
     }
 
-    void object(int r, int p, boolean array) {
+    public void object(int r, int p, boolean array) {
         need(isRoot(r));
         roots[r] = new Thing(p == -1 ? null : at(p), array);
     }
 
-    void copy(int r, int s) {
+    public void copy(int r, int s) {
         need(isRoot(r) && (s == -1 || isRoot(s)));
         roots[r] = s == -1 ? null : roots[s];
     }
 
-    boolean same(int r, int s) {
+    public boolean same(int r, int s) {
         need(isRoot(r) && isRoot(s));
         return roots[r] == roots[s];
     }
 
-    void operand(int kind, long bits) {
+    public void operand(int kind, long bits) {
         need(kind >= 0 && kind <= 5);
         need(kind != 5 || isRoot(bits) && roots[(int) bits] != null);
         long kept = Double.isNaN(Double.longBitsToDouble(bits)) ? 0x7FF8000000000000L : bits;
         operand = new Value(kind, kept, kind == 5 ? roots[(int) bits] : null);
     }
 
-    int kind() {
+    public int kind() {
         return result.kind;
     }
 
-    long bits() {
+    public long bits() {
         if (result.kind != 4) {
             throw new IllegalStateException();
         }
         return result.bits;
     }
 
-    void hold(int r) {
+    public void hold(int r) {
         need(isRoot(r));
         if (result.kind != 5) {
             throw new IllegalStateException();
@@ -187,7 +191,7 @@ final class Model {
         return t == null ? NOTHING : new Value(5, 0, t);
     }
 
-    int get(int r, long key) {
+    public int get(int r, long key) {
         Property p = at(r, key).any(key);
         if (p == null) {
             result = NOTHING;
@@ -197,7 +201,7 @@ final class Model {
         return p.accessor && p.getter != null ? 1 : 0;
     }
 
-    int put(int r, long key) {
+    public int put(int r, long key) {
         Thing t = at(r, key);
         Property p = t.any(key);
         result = NOTHING;
@@ -219,7 +223,7 @@ final class Model {
         return defineAny(t, key, told);
     }
 
-    int define(int r, long key, int told, int flags, int getter, int setter) {
+    public int define(int r, long key, int told, int flags, int getter, int setter) {
         Thing t = at(r, key);
         need(told >= 0 && told <= 63);
         need((told & 3) == 0 || (told & 12) == 0);
@@ -378,7 +382,7 @@ final class Model {
         p.setter = d.setterTold ? d.setter : p.setter;
     }
 
-    int own(int r, long key) {
+    public int own(int r, long key) {
         Property p = at(r, key).mine(key);
         if (p == null) {
             result = NOTHING;
@@ -389,7 +393,7 @@ final class Model {
         return sum + (p.accessor ? 64 : p.writable ? W : 0);
     }
 
-    boolean setter(int r, long key, int s) {
+    public boolean setter(int r, long key, int s) {
         Property p = at(r, key).mine(key);
         need(isRoot(s));
         if (p == null || !p.accessor || p.setter == null) {
@@ -399,11 +403,11 @@ final class Model {
         return true;
     }
 
-    boolean has(int r, long key) {
+    public boolean has(int r, long key) {
         return at(r, key).any(key) != null;
     }
 
-    boolean delete(int r, long key) {
+    public boolean delete(int r, long key) {
         Thing t = at(r, key);
         Property p = t.mine(key);
         if (p != null && !p.configurable) {
@@ -413,17 +417,17 @@ final class Model {
         return true;
     }
 
-    int keys(int r) {
+    public int keys(int r) {
         return at(r).order().size();
     }
 
-    long key(int r, int k) {
+    public long key(int r, int k) {
         List<Long> order = at(r).order();
         need(k >= 0 && k < order.size());
         return order.get(k);
     }
 
-    void lock(int r, int how) {
+    public void lock(int r, int how) {
         Thing t = at(r);
         need(how >= 0 && how <= 2);
         t.extensible = false;
@@ -433,7 +437,7 @@ final class Model {
         }
     }
 
-    boolean locked(int r, int how) {
+    public boolean locked(int r, int how) {
         Thing t = at(r);
         need(how >= 0 && how <= 2);
         boolean so = !t.extensible;
@@ -444,13 +448,13 @@ final class Model {
         return so;
     }
 
-    void prototype(int r, int s) {
+    public void prototype(int r, int s) {
         Thing t = at(r);
         need(isRoot(s));
         roots[s] = t.prototype;
     }
 
-    void stress(int n) {
+    public void stress(int n) {
         need(n >= 0);
     }
 }

@@ -1,11 +1,17 @@
-/** Long runs of mixed calls on a store and on the model: each answer must be the same. */
+/**
+ * Runs of 512 mixed calls on a store and on the model, with and without stress: each answer must be the
+ * same. Some runs play with a few keys, some make objects with many properties, some long chains of
+ * prototypes; each ends with calls that only look.
+ */
 public final class ModelTest {
-    private static final int RUNS = 4000;
+    private static final int RUNS = 3600;
     private static final int CALLS = 512;
-    private static final long[] KEYS = {
+    private static final int LAST_LOOKS = 100;
+    private static final long[] FEW_KEYS = {
         0, 1, 2, 3, 4, 5, 6, 7, 100, 4294967293L, 4294967294L, -1, -1, -1, -2, -3, -4, -5, -6, -64,
     };
     private static final long[] WRONG_KEYS = {4294967295L, -65, 1L << 32, Long.MIN_VALUE, Long.MAX_VALUE};
+    private static final int[] WRONG_ROOTS = {-1, -2, 24, 99, Integer.MIN_VALUE, Integer.MAX_VALUE};
     private static final double[] NUMBERS = {
         0, 0, 1, 1, 2, 2, 3, 4, 5, 7, 8, 101, 1.5, 0.5, -1, 4294967294.0, 4294967295.0, 4294967296.0,
         4294967295.5, Double.POSITIVE_INFINITY, Double.NEGATIVE_INFINITY, Double.MIN_VALUE, Double.MAX_VALUE,
@@ -14,22 +20,44 @@ public final class ModelTest {
         0x8000000000000000L, 0x7FF8000000000000L, 0x7FF0000000000001L, 0xFFF8000000000000L, 0xFFFFFFFFFFFFFFFFL,
     };
 
+    private static final String[] NAMES = {
+        "object", "copy", "same", "operand", "kind", "bits", "hold", "get", "put", "define",
+        "own", "setter", "has", "delete", "keys", "key", "lock", "locked", "prototype", "stress",
+    };
+    /** How often each call comes; locks come seldom, as little happens behind them. */
+    private static final int[] MIXED = {6, 3, 2, 12, 6, 5, 3, 8, 15, 14, 8, 2, 2, 4, 2, 3, 1, 2, 1, 1};
+    private static final int[] WIDE = {0, 0, 1, 8, 2, 3, 0, 5, 40, 20, 5, 1, 1, 3, 2, 5, 0, 1, 0, 1};
+    private static final int[] DEEP = {40, 3, 3, 8, 3, 2, 4, 8, 12, 5, 3, 1, 3, 1, 1, 1, 0, 1, 2, 1};
+    private static final int[] LOOKS = {0, 0, 3, 0, 15, 8, 0, 20, 0, 0, 20, 2, 5, 0, 5, 20, 0, 5, 0, 0};
+
     private static final Check CHECK = new Check("ModelTest");
-    private static final long[] SEEN = new long[8];
+    private static final long[] SEEN = new long[4];
+    private static int mostKeys;
     private static long seed = 20261115L;
 
-    private PropertyStore store = new PropertyStore();
-    private Model model = new Model();
-    private int roots;
-    private String call;
+    /** What any call may be told; each takes its own part. */
+    private record Told(int r, int p, int s, int kind, long bits, long key, int told, int flags, int getter,
+            int setter, int k, int how, boolean array) {
+    }
+
+    private final Store store = new Real(new PropertyStore());
+    private final Model model = new Model();
+    private final int[] weights;
+    private final int roots;
+
+    private ModelTest(int run) {
+        weights = run % 9 == 0 ? WIDE : run % 9 == 1 ? DEEP : MIXED;
+        roots = weights == WIDE ? 1 + below(2) : 2 + below(run % 4 == 0 ? 22 : 6);
+    }
 
     public static void main(String[] args) {
         for (int run = 1; run <= RUNS; run++) {
-            new ModelTest().play(run);
+            new ModelTest(run).play(run);
         }
-        for (int answer = 0; answer < 4; answer++) {
+        for (int answer = 0; answer < SEEN.length; answer++) {
             CHECK.due("answer " + answer + " of put or define was seen", SEEN[answer] > 1000, true);
         }
+        CHECK.due("objects with many properties were seen", mostKeys > 130, true);
         CHECK.end();
     }
 
@@ -43,138 +71,128 @@ public final class ModelTest {
     }
 
     private void play(int run) {
-        roots = 2 + below(run % 4 == 0 ? 22 : 6);
-        if (run % 3 != 0) {
+        if (run % 3 == 0) {
+            step(run, 1, 4);
+        } else {
             int n = 1 + below(4);
             store.stress(n);
             model.stress(n);
         }
-        for (int n = 1; n < CALLS; n++) {
-            step(run, n);
+        for (int n = 2; n <= CALLS; n++) {
+            step(run, n, n <= 2 + roots / 2 ? 0 : pick(n > CALLS - LAST_LOOKS ? LOOKS : weights));
+        }
+        for (int r = 0; r < roots; r++) {
+            mostKeys = Math.max(mostKeys, model.holds(r) ? model.keys(r) : 0);
         }
     }
 
-    private void step(int run, int n) {
-        long[] args = arguments();
-        int which = n <= roots / 2 ? 0 : pick();
-        String got = answer(which, args, true);
-        String due = answer(which, args, false);
-        CHECK.due("run " + run + ", call " + n + ": " + call, got, due);
+    private void step(int run, int n, int which) {
+        Told told = told();
+        String got = answer(store, which, told);
+        String due = answer(model, which, told);
+        String call = got.equals(due) ? NAMES[which] : "run " + run + ", call " + n + ": " + NAMES[which] + " of " + told;
+        CHECK.due(call, got, due);
+        if (which == 8 || which == 9) {
+            count(got);
+        }
     }
 
-    /** Calls that change or show much come more often; locks seldom, as little happens behind them. */
-    private static int pick() {
-        int n = below(100);
-        int[] upTo = {6, 9, 11, 23, 29, 34, 37, 45, 60, 74, 82, 84, 86, 90, 92, 95, 96, 98, 99, 100};
-        for (int which = 0; which < upTo.length; which++) {
-            if (n < upTo[which]) {
-                return which;
-            }
+    private static void count(String answer) {
+        for (int known = 0; known < SEEN.length; known++) {
+            SEEN[known] += answer.equals("" + known) ? 1 : 0;
         }
-        return 0;
+    }
+
+    private static int pick(int[] weights) {
+        int sum = 0;
+        for (int weight : weights) {
+            sum += weight;
+        }
+        int n = below(sum);
+        int which = 0;
+        while (n >= weights[which]) {
+            n -= weights[which];
+            which++;
+        }
+        return which;
     }
 
     private int root() {
-        return rarely() ? new int[] {-1, -2, 24, 99, Integer.MIN_VALUE, Integer.MAX_VALUE}[below(6)] : below(roots);
+        return rarely() ? WRONG_ROOTS[below(WRONG_ROOTS.length)] : below(roots);
     }
 
     private int rootOrNone() {
         return below(4) == 0 ? -1 : root();
     }
 
-    private long[] arguments() {
-        int kind = rarely() ? new int[] {-1, 6, 9}[below(3)] : below(3) == 0 ? below(6) : 4 + below(2);
-        long number = below(8) == 0 ? ODD_NUMBERS[below(ODD_NUMBERS.length)]
-                : Double.doubleToRawLongBits(NUMBERS[below(NUMBERS.length)]);
-        long bits = kind == 5 ? rarely() ? (1L << 32) + below(roots) : root() : number;
-        long key = rarely() ? WRONG_KEYS[below(WRONG_KEYS.length)] : KEYS[below(KEYS.length)];
-        int told = below(64);
-        if ((told & 3) != 0 && (told & 12) != 0 && below(10) != 0) {
-            told &= below(3) == 0 ? ~3 : ~12;
+    /** A key, often one that root r's object has. */
+    private long key(int r) {
+        if (rarely()) {
+            return WRONG_KEYS[below(WRONG_KEYS.length)];
         }
-        told = rarely() ? new int[] {-1, 64, 128, Integer.MIN_VALUE}[below(4)] : told;
-        int flags = below(3) == 0 ? below(64) : below(64) | 48;
-        int small = rarely() ? new int[] {-1, 3, 99}[below(3)] : below(12);
-        return new long[] {root(), rootOrNone(), root(), kind, bits, key, told, flags, rootOrNone(), rootOrNone(),
-            small, below(8) == 0 ? 0 : below(3), below(3)};
+        if (model.holds(r) && model.keys(r) > 0 && below(3) == 0) {
+            return model.key(r, below(model.keys(r)));
+        }
+        if (weights == WIDE) {
+            return below(5) == 0 ? 4294967294L - below(100) : below(364) - 64;
+        }
+        return FEW_KEYS[below(FEW_KEYS.length)];
     }
 
-    private String answer(int which, long[] a, boolean real) {
+    private Told told() {
+        int r = root();
+        int kind = rarely() ? new int[] {-1, 6, 9}[below(3)] : below(3) == 0 ? below(6) : 4 + below(2);
+        int bits = below(64);
+        if ((bits & 3) != 0 && (bits & 12) != 0 && below(10) != 0) {
+            bits &= below(3) == 0 ? ~3 : ~12;
+        }
+        bits = rarely() ? new int[] {-1, 64, 128, Integer.MIN_VALUE}[below(4)] : bits;
+        int flags = below(3) == 0 ? below(64) : below(64) | 48;
+        int count = model.holds(r) ? model.keys(r) : 0;
+        int k = rarely() ? new int[] {-1, count, 9999}[below(3)] : below(count + 1);
+        int how = rarely() ? new int[] {-1, 3, 99}[below(3)] : below(8) == 0 ? below(3) : 0;
+        return new Told(r, rootOrNone(), root(), kind, operandBits(kind), key(r), bits, flags, rootOrNone(),
+                rootOrNone(), k, how, below(3) == 0);
+    }
+
+    private long operandBits(int kind) {
+        if (kind == 5) {
+            return rarely() ? (1L << 32) + below(roots) : root();
+        }
+        return below(8) == 0 ? ODD_NUMBERS[below(ODD_NUMBERS.length)]
+                : Double.doubleToRawLongBits(NUMBERS[below(NUMBERS.length)]);
+    }
+
+    private static String answer(Store x, int which, Told t) {
         try {
-            return real ? onStore(which, a) : onModel(which, a);
+            return call(x, which, t);
         } catch (IllegalArgumentException | IllegalStateException e) {
             return e.getClass().getSimpleName();
         }
     }
 
-    private String onStore(int which, long[] a) {
-        PropertyStore x = store;
-        int r = (int) a[0];
-        int p = (int) a[1];
-        int s = (int) a[2];
-        long key = a[5];
-        int small = (int) a[10];
-        int how = small > 2 ? (int) a[11] : small;
+    private static String call(Store x, int which, Told t) {
         switch (which) {
-            case 0: call = "object(" + r + ", " + p + ", " + (a[12] == 0) + ")"; x.object(r, p, a[12] == 0); return "";
-            case 1: call = "copy(" + r + ", " + p + ")"; x.copy(r, p); return "";
-            case 2: call = "same(" + r + ", " + s + ")"; return "" + x.same(r, s);
-            case 3: call = "operand(" + a[3] + ", " + a[4] + ")"; x.operand((int) a[3], a[4]); return "";
-            case 4: call = "kind()"; return "" + x.kind();
-            case 5: call = "bits()"; return "" + x.bits();
-            case 6: call = "hold(" + r + ")"; x.hold(r); return "";
-            case 7: call = "get(" + r + ", " + key + ")"; return "" + x.get(r, key);
-            case 8: call = "put(" + r + ", " + key + ")"; return seen(x.put(r, key));
-            case 9:
-                call = "define(" + r + ", " + key + ", " + a[6] + ", " + a[7] + ", " + a[8] + ", " + a[9] + ")";
-                return seen(x.define(r, key, (int) a[6], (int) a[7], (int) a[8], (int) a[9]));
-            case 10: call = "own(" + r + ", " + key + ")"; return "" + x.own(r, key);
-            case 11: call = "setter(" + r + ", " + key + ", " + s + ")"; return "" + x.setter(r, key, s);
-            case 12: call = "has(" + r + ", " + key + ")"; return "" + x.has(r, key);
-            case 13: call = "delete(" + r + ", " + key + ")"; return "" + x.delete(r, key);
-            case 14: call = "keys(" + r + ")"; return "" + x.keys(r);
-            case 15: call = "key(" + r + ", " + small + ")"; return "" + x.key(r, small);
-            case 16: call = "lock(" + r + ", " + how + ")"; x.lock(r, how); return "";
-            case 17: call = "locked(" + r + ", " + how + ")"; return "" + x.locked(r, how);
-            case 18: call = "prototype(" + r + ", " + s + ")"; x.prototype(r, s); return "";
-            default: call = "stress(" + how + ")"; x.stress(how); return "";
-        }
-    }
-
-    private static String seen(int answer) {
-        SEEN[answer & 7]++;
-        return "" + answer;
-    }
-
-    private String onModel(int which, long[] a) {
-        Model x = model;
-        int r = (int) a[0];
-        int p = (int) a[1];
-        int s = (int) a[2];
-        long key = a[5];
-        int small = (int) a[10];
-        int how = small > 2 ? (int) a[11] : small;
-        switch (which) {
-            case 0: x.object(r, p, a[12] == 0); return "";
-            case 1: x.copy(r, p); return "";
-            case 2: return "" + x.same(r, s);
-            case 3: x.operand((int) a[3], a[4]); return "";
+            case 0: x.object(t.r, t.p, t.array); return "";
+            case 1: x.copy(t.r, t.p); return "";
+            case 2: return "" + x.same(t.r, t.s);
+            case 3: x.operand(t.kind, t.bits); return "";
             case 4: return "" + x.kind();
             case 5: return "" + x.bits();
-            case 6: x.hold(r); return "";
-            case 7: return "" + x.get(r, key);
-            case 8: return "" + x.put(r, key);
-            case 9: return "" + x.define(r, key, (int) a[6], (int) a[7], (int) a[8], (int) a[9]);
-            case 10: return "" + x.own(r, key);
-            case 11: return "" + x.setter(r, key, s);
-            case 12: return "" + x.has(r, key);
-            case 13: return "" + x.delete(r, key);
-            case 14: return "" + x.keys(r);
-            case 15: return "" + x.key(r, small);
-            case 16: x.lock(r, how); return "";
-            case 17: return "" + x.locked(r, how);
-            case 18: x.prototype(r, s); return "";
-            default: x.stress(how); return "";
+            case 6: x.hold(t.r); return "";
+            case 7: return "" + x.get(t.r, t.key);
+            case 8: return "" + x.put(t.r, t.key);
+            case 9: return "" + x.define(t.r, t.key, t.told, t.flags, t.getter, t.setter);
+            case 10: return "" + x.own(t.r, t.key);
+            case 11: return "" + x.setter(t.r, t.key, t.s);
+            case 12: return "" + x.has(t.r, t.key);
+            case 13: return "" + x.delete(t.r, t.key);
+            case 14: return "" + x.keys(t.r);
+            case 15: return "" + x.key(t.r, t.k);
+            case 16: x.lock(t.r, t.how); return "";
+            case 17: return "" + x.locked(t.r, t.how);
+            case 18: x.prototype(t.r, t.s); return "";
+            default: x.stress(t.how); return "";
         }
     }
 }

@@ -3,6 +3,11 @@ public final class PromiseTest extends Scene {
     private static final Check CHECK = new Check("PromiseTest");
 
     public static void main(String[] args) {
+        withEachStress(PromiseTest::all);
+        CHECK.end();
+    }
+
+    static void all() {
         newObject();
         object();
         copy();
@@ -28,11 +33,10 @@ public final class PromiseTest extends Scene {
         locked();
         prototype();
         stress();
-        CHECK.end();
     }
 
     private static void newObject() {
-        PropertyStore x = new PropertyStore();
+        PropertyStore x = fresh();
         x.object(0, -1, false);
         for (int r = 1; r < Check.ROOTS; r++) {
             int root = r;
@@ -47,7 +51,7 @@ public final class PromiseTest extends Scene {
     }
 
     private static void object() {
-        PropertyStore x = new PropertyStore();
+        PropertyStore x = fresh();
         x.object(0, -1, false);
         x.copy(1, 0);
         x.object(0, 0, true);
@@ -230,7 +234,7 @@ public final class PromiseTest extends Scene {
         CHECK.due("put(0, -1), not writable, of the same", x.put(0, -1), 2);
         x.operand(0, 0);
         CHECK.due("put(0, -1), not writable, of a bad one", x.put(0, -1), 2);
-        PropertyStore y = new PropertyStore();
+        PropertyStore y = fresh();
         y.object(0, -1, true);
         y.object(1, -1, false);
         y.define(0, -1, W, 0, -1, -1);
@@ -482,7 +486,7 @@ public final class PromiseTest extends Scene {
     }
 
     private static void key() {
-        PropertyStore x = new PropertyStore();
+        PropertyStore x = fresh();
         x.object(0, -1, false);
         for (long key : new long[] {-5, 9, -2, 4294967294L, 0, -64, 3}) {
             x.put(0, key);

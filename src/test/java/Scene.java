@@ -16,9 +16,31 @@ abstract class Scene {
     static final long LAST_INDEX = 4294967294L;
     static final double MOST_LENGTH = 4294967295.0;
 
+    private static final int[] STRESSES = {0, 1, 2, 3};
+
+    /** What fresh stores are told; 0: nothing. */
+    static int stress;
+
+    /** No answer changes by collections: all tests are due without stress and with it. */
+    static void withEachStress(Runnable tests) {
+        for (int n : STRESSES) {
+            stress = n;
+            tests.run();
+        }
+        stress = 0;
+    }
+
+    static PropertyStore fresh() {
+        PropertyStore x = new PropertyStore();
+        if (stress != 0) {
+            x.stress(stress);
+        }
+        return x;
+    }
+
     /** An array, an object behind it, accessors, and a result and an operand that are objects. */
     static PropertyStore rich() {
-        PropertyStore x = new PropertyStore();
+        PropertyStore x = fresh();
         x.object(0, -1, true);
         x.object(1, 0, false);
         x.object(2, -1, false);
@@ -35,7 +57,7 @@ abstract class Scene {
 
     /** An array in root 0 with the number 1 at some indices. */
     static PropertyStore array(long... indices) {
-        PropertyStore x = new PropertyStore();
+        PropertyStore x = fresh();
         x.object(0, -1, true);
         for (long index : indices) {
             putNumber(x, 0, index, 1);
@@ -45,7 +67,7 @@ abstract class Scene {
 
     /** An object in root 0 with a property at name 1, and objects in the roots 1 and 2. */
     static PropertyStore withProperty(int told, int flags, int getter, int setter) {
-        PropertyStore x = new PropertyStore();
+        PropertyStore x = fresh();
         x.object(0, -1, false);
         x.object(1, -1, false);
         x.object(2, -1, false);

@@ -11,6 +11,11 @@ public final class TermsTest extends Scene {
     private static final Check CHECK = new Check("TermsTest");
 
     public static void main(String[] args) {
+        withEachStress(TermsTest::all);
+        CHECK.end();
+    }
+
+    static void all() {
         lastCall();
         rootsHoldObjects();
         staysByRoot();
@@ -29,12 +34,15 @@ public final class TermsTest extends Scene {
         lengthIsNameZero();
         keysDoNotWrapAround();
         kinds();
+        numbers();
         noNumbers();
+        objectsAsValues();
         sameValues();
         operand();
         result();
         operandAndResultStay();
         formsOfProperties();
+        accessors();
         noTwoWithOneKey();
         prototypeNeverChanges();
         extensibleAtFirst();
@@ -52,42 +60,43 @@ public final class TermsTest extends Scene {
         orderOfKeys();
         collectsUnseen();
         collectsUnseenWhenTakenBack();
-        CHECK.end();
+    }
+
+    /** A store that has had one call. */
+    private static PropertyStore behindOneCall() {
+        PropertyStore x = new PropertyStore();
+        x.stress(stress);
+        return x;
     }
 
     private static void lastCall() {
         CHECK.sentence("What it is", "An object is used for at most 512 calls after it has been made");
-        for (int n = 0; n < 4; n++) {
-            PropertyStore deep = new PropertyStore();
-            deep.stress(n);
-            deep.object(0, -1, true);
-            deep.operand(3, 0);
-            deep.put(0, -2);
-            for (int call = 5; call <= 510; call++) {
-                deep.object(0, 0, true);
-            }
-            CHECK.due("call 511: get through 506 arrays", deep.get(0, -2), 0);
-            CHECK.due("call 512: kind()", deep.kind(), 3);
-            PropertyStore wide = new PropertyStore();
-            wide.stress(n);
-            wide.object(0, -1, true);
-            for (int call = 3; call <= 510; call++) {
-                wide.put(0, call % 2 == 0 ? call : LAST_INDEX - call);
-            }
-            CHECK.due("call 511: the last of 508 indices", wide.key(0, 507), LAST_INDEX - 3);
-            CHECK.due("call 512: keys(0)", wide.keys(0), 509);
-            PropertyStore last = new PropertyStore();
-            last.stress(n);
-            for (int call = 2; call <= 511; call++) {
-                last.object(call % 24, -1, true);
-            }
-            CHECK.due("call 512: object throws", Check.thrown(() -> last.object(0, 0, true)), "nothing");
+        PropertyStore deep = behindOneCall();
+        deep.object(0, -1, true);
+        deep.operand(3, 0);
+        deep.put(0, -2);
+        for (int call = 5; call <= 510; call++) {
+            deep.object(0, 0, true);
         }
+        CHECK.due("call 511: get through 506 arrays", deep.get(0, -2), 0);
+        CHECK.due("call 512: kind()", deep.kind(), 3);
+        PropertyStore wide = behindOneCall();
+        wide.object(0, -1, true);
+        for (int call = 3; call <= 510; call++) {
+            wide.put(0, call % 2 == 0 ? call : LAST_INDEX - call);
+        }
+        CHECK.due("call 511: the last of 508 indices", wide.key(0, 507), LAST_INDEX - 3);
+        CHECK.due("call 512: keys(0)", wide.keys(0), 509);
+        PropertyStore last = behindOneCall();
+        for (int call = 2; call <= 511; call++) {
+            last.object(call % 24, -1, true);
+        }
+        CHECK.due("call 512: object throws", Check.thrown(() -> last.object(0, 0, true)), "nothing");
     }
 
     private static void rootsHoldObjects() {
         CHECK.sentence("Terms", "ROOTS 0 .. 23 each hold an OBJECT or nothing");
-        PropertyStore x = new PropertyStore();
+        PropertyStore x = fresh();
         for (int r = 0; r < Check.ROOTS; r++) {
             x.object(r, -1, r % 2 == 0);
             putNumber(x, r, -2, r);
@@ -100,10 +109,9 @@ public final class TermsTest extends Scene {
         }
     }
 
-    /** An object in root 0 that is known by a number; with stress n. */
-    private static PropertyStore marked(int n) {
-        PropertyStore x = new PropertyStore();
-        x.stress(n);
+    /** An object in root 0 that is known by a number. */
+    private static PropertyStore marked() {
+        PropertyStore x = fresh();
         x.object(0, -1, false);
         putNumber(x, 0, -2, 77);
         x.operand(0, 0);
@@ -113,15 +121,13 @@ public final class TermsTest extends Scene {
 
     private static void stays(String part, Consumer<PropertyStore> leave, Consumer<PropertyStore> findAgain) {
         CHECK.sentence("Terms", part);
-        for (int n = 0; n < 4; n++) {
-            PropertyStore x = marked(n);
-            leave.accept(x);
-            churn(x);
-            findAgain.accept(x);
-            CHECK.due("stress(" + n + "): own(0, -2)", x.own(0, -2), WEC);
-            CHECK.due("stress(" + n + "): keys(0)", x.keys(0), 1);
-            CHECK.due("stress(" + n + "): bits()", x.bits(), Check.number(77));
-        }
+        PropertyStore x = marked();
+        leave.accept(x);
+        churn(x);
+        findAgain.accept(x);
+        CHECK.due("own(0, -2)", x.own(0, -2), WEC);
+        CHECK.due("keys(0)", x.keys(0), 1);
+        CHECK.due("bits()", x.bits(), Check.number(77));
     }
 
     private static void staysByRoot() {
@@ -218,14 +224,14 @@ public final class TermsTest extends Scene {
 
     private static void hasRoom() {
         CHECK.sentence("Terms", "There is always room.");
-        PropertyStore x = new PropertyStore();
+        PropertyStore x = fresh();
         x.object(0, -1, true);
         for (int n = 0; n < 250; n++) {
             CHECK.due("put", x.put(0, n), 0);
             CHECK.due("delete", x.delete(0, n), true);
         }
         CHECK.dueLength(x, 0, 250, W);
-        PropertyStore y = new PropertyStore();
+        PropertyStore y = fresh();
         y.object(0, -1, true);
         for (int n = 0; n < 160; n++) {
             y.object(1, 0, true);
@@ -302,7 +308,7 @@ public final class TermsTest extends Scene {
     private static void indices() {
         CHECK.sentence("Terms", "A KEY is a number: 0 .. 4294967294 an INDEX");
         long[] rising = {0, 1, 2147483647L, 2147483648L, 4294967293L, LAST_INDEX};
-        PropertyStore x = new PropertyStore();
+        PropertyStore x = fresh();
         x.object(0, -1, false);
         x.put(0, -5);
         for (int k = rising.length - 1; k >= 0; k--) {
@@ -322,7 +328,7 @@ public final class TermsTest extends Scene {
 
     private static void names() {
         CHECK.sentence("Terms", "-1 - n, for n 0 .. 63, the NAME n");
-        PropertyStore x = new PropertyStore();
+        PropertyStore x = fresh();
         x.object(0, -1, false);
         for (int n = 63; n >= 0; n--) {
             CHECK.due("put of name " + n, putNumber(x, 0, -1 - n, n), 0);
@@ -348,7 +354,7 @@ public final class TermsTest extends Scene {
     private static void keysDoNotWrapAround() {
         CHECK.sentence("Terms", "A KEY is a number");
         long[] keys = {-2, LAST_INDEX, -64, 4294967232L, -33, 4294967263L, 0, 2147483648L};
-        PropertyStore x = new PropertyStore();
+        PropertyStore x = fresh();
         x.object(0, -1, false);
         for (int k = 0; k < keys.length; k++) {
             putNumber(x, 0, keys[k], k);
@@ -366,16 +372,57 @@ public final class TermsTest extends Scene {
 
     private static void kinds() {
         CHECK.sentence("Terms", "A VALUE is of a KIND: 0 undefined, 1 null, 2 false, 3 true, 4 a NUMBER");
-        PropertyStore x = new PropertyStore();
+        PropertyStore x = fresh();
         x.object(0, -1, false);
         for (int kind = 0; kind <= 5; kind++) {
             x.operand(kind, 0);
             CHECK.due("put of kind " + kind, x.put(0, -2), 0);
             CHECK.due("get of kind " + kind, x.get(0, -2), 0);
             CHECK.due("kind()", x.kind(), kind);
+            CHECK.due("bits() of kind " + kind + " throws", Check.thrown(() -> x.bits()),
+                    kind == 4 ? "nothing" : "IllegalStateException");
+            CHECK.due("hold(1) of kind " + kind + " throws", Check.thrown(() -> x.hold(1)),
+                    kind == 5 ? "nothing" : "IllegalStateException");
         }
         for (int kind : new int[] {-1, 6}) {
             CHECK.refuses("operand of kind " + kind, Scene::rich, y -> y.operand(kind, 0));
+        }
+    }
+
+    private static void numbers() {
+        CHECK.sentence("Terms", "4 a NUMBER (the 64 bits of an IEEE double");
+        PropertyStore x = fresh();
+        x.object(0, -1, false);
+        for (int bit = 0; bit < 64; bit++) {
+            dueOperandBits(x, 1L << bit, 1L << bit);
+        }
+        PropertyStore y = fresh();
+        y.object(0, -1, false);
+        long bits = 0x0123456789ABCDEFL;
+        for (int n = 0; n < 64; n++) {
+            // Some of the lowest bits are there in each turn: with exponent 2047 it would be no number.
+            boolean none = (bits >>> 52 & 2047) == 2047;
+            dueOperandBits(y, bits, none ? 0x7FF8000000000000L : bits);
+            bits = Long.rotateLeft(bits, 1);
+        }
+    }
+
+    private static void objectsAsValues() {
+        CHECK.sentence("Terms", "are taken for 7FF8000000000000, hexadecimal), 5 an object.");
+        PropertyStore x = fresh();
+        for (int r = 0; r < Check.ROOTS; r++) {
+            x.object(r, -1, r % 2 == 0);
+        }
+        for (int r = 0; r < Check.ROOTS; r++) {
+            x.operand(5, r);
+            x.put(0, r);
+        }
+        for (int r = Check.ROOTS - 1; r > 1; r--) {
+            CHECK.due("get(0, " + r + ")", x.get(0, r), 0);
+            CHECK.due("kind()", x.kind(), 5);
+            x.hold(1);
+            CHECK.due("the value is the object of root " + r, x.same(1, r), true);
+            CHECK.due("it is no other root's", x.same(1, r - 1), r == 2);
         }
     }
 
@@ -386,7 +433,7 @@ public final class TermsTest extends Scene {
             0xFFF0000000000001L, 0xFFF8000000000000L, 0xFFFFFFFFFFFFFFFFL};
         long[] numbers = {0x7FF0000000000000L, 0xFFF0000000000000L, 0x7FEFFFFFFFFFFFFFL, 0xFFEFFFFFFFFFFFFFL,
             0L, 0x8000000000000000L, 1L, 0x8000000000000001L, 0x000FFFFFFFFFFFFFL, 0x0010000000000000L};
-        PropertyStore x = new PropertyStore();
+        PropertyStore x = fresh();
         x.object(0, -1, false);
         for (long bits : none) {
             dueOperandBits(x, bits, 0x7FF8000000000000L);
@@ -425,7 +472,7 @@ public final class TermsTest extends Scene {
     }
 
     private static PropertyStore fixedWith(long[] value, long[] operand) {
-        PropertyStore x = new PropertyStore();
+        PropertyStore x = fresh();
         x.object(0, -1, false);
         x.object(1, -1, false);
         x.object(2, -1, false);
@@ -444,7 +491,7 @@ public final class TermsTest extends Scene {
 
     private static void operand() {
         CHECK.sentence("Terms", "THE OPERAND is a value: that which was told last (undefined at first).");
-        PropertyStore x = new PropertyStore();
+        PropertyStore x = fresh();
         dueOperandKind("a new store", x, 0);
         x.operand(4, 5);
         x.operand(3, 5);
@@ -467,7 +514,7 @@ public final class TermsTest extends Scene {
     private static void result() {
         CHECK.sentence("Terms", "THE RESULT is a value, too: that which the latest call of get, put, own "
                 + "that did not throw gave (undefined at first).");
-        CHECK.due("kind() of a new store", new PropertyStore().kind(), 0);
+        CHECK.due("kind() of a new store", fresh().kind(), 0);
         PropertyStore x = rich();
         for (Consumer<PropertyStore> call : throwingCalls()) {
             Check.thrown(() -> call.accept(x));
@@ -523,30 +570,52 @@ public final class TermsTest extends Scene {
 
     private static void operandAndResultStay() {
         CHECK.sentence("Terms", "An object that is one of both is there as long as it is.");
-        for (int n = 0; n < 3; n++) {
-            PropertyStore x = marked(n);
-            x.operand(5, 0);
-            x.put(1, -3);
-            x.get(1, -3);
-            x.copy(0, -1);
-            x.copy(1, -1);
-            churn(x);
-            x.operand(0, 0);
-            churn(x);
-            x.hold(0);
-            CHECK.dueNumber(x, 0, -2, 77);
-            x.operand(5, 0);
-            x.copy(0, -1);
-            churn(x);
-            x.object(1, -1, false);
-            x.put(1, -3);
-            x.get(1, -3);
-            x.hold(0);
-            CHECK.dueNumber(x, 0, -2, 77);
-        }
+        PropertyStore x = marked();
+        x.operand(5, 0);
+        x.put(1, -3);
+        x.get(1, -3);
+        x.copy(0, -1);
+        x.copy(1, -1);
+        churn(x);
+        x.operand(0, 0);
+        churn(x);
+        x.hold(0);
+        CHECK.dueNumber(x, 0, -2, 77);
+        x.operand(5, 0);
+        x.copy(0, -1);
+        churn(x);
+        x.object(1, -1, false);
+        x.put(1, -3);
+        x.get(1, -3);
+        x.hold(0);
+        CHECK.dueNumber(x, 0, -2, 77);
     }
 
     private static void formsOfProperties() {
+        CHECK.sentence("Terms", "A PROPERTY has a key, is ENUMERABLE or not, CONFIGURABLE or not, and is either a DATA property, "
+                + "with a value, WRITABLE or not, or an ACCESSOR");
+        int[] parts = {0, W, E, W | E, C, W | C, E | C, WEC};
+        PropertyStore x = fresh();
+        x.object(0, -1, false);
+        x.object(1, -1, false);
+        for (int n = 0; n < parts.length; n++) {
+            defineNumber(x, 0, -2 - n, VALUE | WEC, parts[n], n);
+            defineNumber(x, 0, LAST_INDEX - n, VALUE | WEC, parts[n], 100 + n);
+            x.define(0, n, GETTER | SETTER | E | C, parts[n], 1, -1);
+        }
+        for (int n = 0; n < parts.length; n++) {
+            CHECK.due("own of the name " + (n + 1), x.own(0, -2 - n), parts[n]);
+            CHECK.due("bits()", x.bits(), Check.number(n));
+            CHECK.due("own of the last index but " + n, x.own(0, LAST_INDEX - n), parts[n]);
+            CHECK.due("bits()", x.bits(), Check.number(100 + n));
+            CHECK.due("own of the index " + n, x.own(0, n), ACCESSOR | parts[n] & ~W);
+            CHECK.due("kind()", x.kind(), 5);
+            CHECK.due("put of the name " + (n + 1), x.put(0, -2 - n), (parts[n] & W) != 0 ? 0 : 2);
+            CHECK.due("delete of the name " + (n + 1), x.delete(0, -2 - n), (parts[n] & C) != 0);
+        }
+    }
+
+    private static void accessors() {
         CHECK.sentence("Terms", "or an ACCESSOR, with a GETTER and a SETTER, each an object or none");
         for (int getter : new int[] {-1, 1}) {
             for (int setter : new int[] {-1, 2}) {
@@ -562,7 +631,7 @@ public final class TermsTest extends Scene {
 
     private static void noTwoWithOneKey() {
         CHECK.sentence("Terms", "An object has OWN properties, no two with the same key");
-        PropertyStore x = new PropertyStore();
+        PropertyStore x = fresh();
         x.object(0, -1, false);
         for (int n = 0; n < 3; n++) {
             x.put(0, LAST_INDEX);
@@ -590,7 +659,7 @@ public final class TermsTest extends Scene {
 
     private static void extensibleAtFirst() {
         CHECK.sentence("Terms", "and is EXTENSIBLE at first");
-        PropertyStore x = new PropertyStore();
+        PropertyStore x = fresh();
         x.object(0, -1, false);
         x.lock(0, 0);
         x.object(1, 0, false);
@@ -603,7 +672,7 @@ public final class TermsTest extends Scene {
 
     private static void ownAheadOfPrototype() {
         CHECK.sentence("Terms", "An object's property of a key is its own one, otherwise that of its prototype.");
-        PropertyStore x = new PropertyStore();
+        PropertyStore x = fresh();
         x.object(0, -1, false);
         putNumber(x, 0, -2, 5);
         x.object(1, 0, false);
@@ -623,7 +692,7 @@ public final class TermsTest extends Scene {
     }
 
     private static void getOfNothing() {
-        CHECK.sentence("Terms, TO GET", "undefined when there is no property of it; the value of a data property");
+        CHECK.sentence("Terms", "TO GET a key: undefined when there is no property of it; the value of a data property");
         PropertyStore x = rich();
         CHECK.due("get(2, 0) of an empty object", x.get(2, 0), 0);
         CHECK.due("kind()", x.kind(), 0);
@@ -651,7 +720,8 @@ public final class TermsTest extends Scene {
     }
 
     private static void putOfOwnData() {
-        CHECK.sentence("Terms, TO PUT", "a data property: refused unless writable (before anything else, also of LENGTH)");
+        CHECK.sentence("Terms", "TO PUT a value at a key: when it has an own property: a data property: refused unless writable "
+                + "(before anything else, also of LENGTH)");
         CHECK.leavesPut("put of another value", 2, () -> fixedWith(new long[] {3, 0}, new long[] {2, 0}), 0, -2);
         CHECK.leavesPut("put of the same value", 2, () -> fixedWith(new long[] {3, 0}, new long[] {3, 0}), 0, -2);
         CHECK.leavesPut("put of a configurable one", 2, () -> withProperty(VALUE | C, C, -1, -1), 0, -2);
@@ -800,7 +870,7 @@ public final class TermsTest extends Scene {
     private static void orderOfKeys() {
         CHECK.sentence("Terms", "KEYS of an object are in order: own indices, rising, then own names as they were made "
                 + "(one that was deleted and is made again comes last).");
-        PropertyStore x = new PropertyStore();
+        PropertyStore x = fresh();
         x.object(0, -1, false);
         for (long key : new long[] {LAST_NAME, 2, LENGTH, LAST_INDEX, -3, 0}) {
             x.put(0, key);
@@ -836,7 +906,7 @@ public final class TermsTest extends Scene {
     private static void collectsUnseenWhenTakenBack() {
         CHECK.sentence("Terms", "or before each n-th block that is made when that is told; no answer changes by it.");
         for (int n = 1; n < 4; n++) {
-            PropertyStore x = new PropertyStore();
+            PropertyStore x = fresh();
             x.object(0, -1, true);
             x.object(1, -1, true);
             x.copy(1, -1);
