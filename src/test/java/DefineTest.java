@@ -102,10 +102,14 @@ public final class DefineTest extends Scene {
         CHECK.due("own(0, -2)", value.own(0, -2), WEC);
         CHECK.due("bits()", value.bits(), Check.number(6));
         PropertyStore accessor = withProperty(GETTER | SETTER | E | C, E | C, 1, 2);
-        CHECK.due("a getter", define(accessor, GETTER, 0, 2, 1), 0);
-        dueOwn(accessor, ACCESSOR | E | C, 2, 2);
-        CHECK.due("a setter", define(accessor, SETTER, 0, 1, 1), 0);
-        dueOwn(accessor, ACCESSOR | E | C, 2, 1);
+        CHECK.due("a getter", define(accessor, GETTER, 0, 0, 1), 0);
+        dueOwn(accessor, ACCESSOR | E | C, 0, 2);
+        CHECK.due("a setter", define(accessor, SETTER, 0, 2, 1), 0);
+        dueOwn(accessor, ACCESSOR | E | C, 0, 1);
+        CHECK.due("an accessor that is not enumerable", define(accessor, E, 0, 2, 2), 0);
+        dueOwn(accessor, ACCESSOR | C, 0, 1);
+        CHECK.due("an accessor that is not configurable", define(accessor, C, 0, 2, 2), 0);
+        dueOwn(accessor, ACCESSOR, 0, 1);
         CHECK.leaves("nothing", 0, () -> withProperty(GETTER | SETTER | C, C, 1, 2), x -> define(x, 0, WEC, 2, 1));
     }
 
@@ -358,6 +362,14 @@ public final class DefineTest extends Scene {
             CHECK.due("by not writable, not configurable", define(x, W | C, 0, -1, -1), 0);
             dueOwn(x, (kept ^ E) & E, -1, -1);
             CHECK.dueKeys(x, 0, -2, -3);
+        }
+        for (int part : new int[] {GETTER, SETTER}) {
+            PropertyStore again = withProperty(GETTER | SETTER | C, C, 1, 2);
+            CHECK.due("data for a while", define(again, VALUE | W, W, -1, -1), 0);
+            CHECK.due("an accessor again", define(again, part, 0, 0, 0), 0);
+            dueOwn(again, ACCESSOR | C, part == GETTER ? 0 : -1, part == SETTER ? 0 : -1);
+            CHECK.due("data again", define(again, W, 0, -1, -1), 0);
+            dueOwn(again, C, -1, -1);
         }
         PropertyStore y = array(0, 1, 2);
         CHECK.due("an index", y.define(0, 1, GETTER, 0, 0, -1), 0);
